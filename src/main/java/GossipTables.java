@@ -732,18 +732,13 @@ public final class GossipTables {
             name[event] = ofName;
             step[event] = atStep;
             before[event].copyOf(held);
-            height[event] = 1 + highestBefore(event);
-            return event;
-        }
-
-        private int highestBefore(int event) {
-            int most = 0;
+            height[event] = 1;
             for (int other = 0; other < event; other++) {
-                if (before[event].holds(other) && height[other] > most) {
-                    most = height[other];
+                if (height[other] >= height[event] && held.holds(other)) {
+                    height[event] = height[other] + 1;
                 }
             }
-            return most;
+            return event;
         }
 
         /** What is ahead of an event came earlier, so its number is lower. */
@@ -909,13 +904,14 @@ public final class GossipTables {
         private void raiseRow(int row, int[] other, int otherRow) {
             for (int at = 0; at < MOST_SITES; at++) {
                 int i = row * MOST_SITES + at;
-                table[i] = Math.max(table[i], other[otherRow * MOST_SITES + at]);
+                int time = other[otherRow * MOST_SITES + at];
+                table[i] = time > table[i] ? time : table[i];
             }
         }
 
         private void raise(int row, int at, int time) {
             int i = row * MOST_SITES + at;
-            table[i] = Math.max(table[i], time);
+            table[i] = time > table[i] ? time : table[i];
         }
 
         private void dropKnownToAll(Events events, int sites) {
@@ -1617,9 +1613,13 @@ public final class GossipTables {
         }
 
         int ifJoined(int site, int by, int what) {
-            sites[site].copyOf(world.live[site]);
-            sites[site].adopt(world.live[by], site, by, world.events.clock[site], world.steps);
+            joinOnPaper(site, by);
             return reckonWith(site, what);
+        }
+
+        /** Whatever stood on the paper's site goes, but for when and by whom events came: none asks for that. */
+        private void joinOnPaper(int site, int by) {
+            sites[site].adopt(world.live[by], site, by, world.events.clock[site], world.steps);
         }
 
         /** The paper's site stands in for the live one while it is looked at. */
@@ -1638,6 +1638,7 @@ public final class GossipTables {
         }
 
         int bestToJoin(int site) {
+            Site now = world.live[site];
             int best = NONE;
             int lost = 0;
             int held = 0;
@@ -1645,8 +1646,11 @@ public final class GossipTables {
                 if (by == site) {
                     continue;
                 }
-                int lostThen = ifJoined(site, by, 1);
-                int heldThen = ifJoined(site, by, 0);
+                joinOnPaper(site, by);
+                world.live[site] = sites[site];
+                int lostThen = lostTo(site);
+                world.live[site] = now;
+                int heldThen = sites[site].held.size();
                 if (best == NONE || lostThen < lost || lostThen == lost && heldThen > held) {
                     best = by;
                     lost = lostThen;

@@ -14,6 +14,9 @@ public final class SavedTest {
         chance();
         chanceThatCannotBe();
         keepAndBack();
+        backToEvents();
+        backToLetters();
+        backToWhenAndBy();
         cut();
         Check.end();
     }
@@ -83,6 +86,12 @@ public final class SavedTest {
         Check.due("14: came later", 7, () -> g.came(1, 0, 0));
         g.fall(1);
         Check.due("14: when, as saved", 3, () -> g.came(1, 0, 0));
+        Check.due("14: by, as saved", 0, () -> g.came(1, 0, 1));
+        g.join(1, 2);
+        send(g, 0, 2);
+        send(g, 2, 1);
+        Check.due("14: came by another one", 2, () -> g.came(1, 0, 1));
+        g.fall(1);
         Check.due("14: by, as saved", 0, () -> g.came(1, 0, 1));
     }
 
@@ -273,6 +282,90 @@ public final class SavedTest {
         Check.due("18: mode", 1, () -> g.count(1));
         Check.due("17: kept anew", 0, () -> g.keep(1));
         Check.due("18: that is it then", 0, () -> g.back(1));
+    }
+
+    /** What each event was is told as it was, though others had its number since. */
+    private static void backToEvents() {
+        GossipTables g = new GossipTables();
+        g.sites(5);
+        g.add(4, 44);
+        g.add(3, 33);
+        send(g, 4, 3);
+        g.take(3, 0);
+        g.keep(0);
+        int[][] due = new int[3][9];
+        for (int event = 0; event < 3; event++) {
+            for (int what = 0; what < 9; what++) {
+                due[event][what] = g.event(event, what);
+            }
+        }
+        g.sites(2);
+        g.add(0, 1);
+        g.add(0, 2);
+        g.add(0, 3);
+        g.back(0);
+        for (int event = 0; event < 3; event++) {
+            for (int what = 0; what < 9; what++) {
+                int e = event;
+                int w = what;
+                Check.due("18: event " + e + ", " + w, due[e][w], () -> g.event(e, w));
+            }
+        }
+        Check.due("18: ahead", true, () -> g.ahead(0, 2));
+        Check.due("18: not ahead", false, () -> g.ahead(0, 1));
+        g.join(0, 3);
+        g.join(1, 3);
+        g.join(2, 3);
+        send(g, 3, 4);
+        Check.due("18: step of its coming", 8, () -> g.slowest(0));
+    }
+
+    private static void backToLetters() {
+        GossipTables g = new GossipTables();
+        g.add(0, 1);
+        send(g, 0, 1);
+        g.add(1, 2);
+        g.write(1, 2);
+        g.mode(1);
+        g.write(1, 2);
+        g.come(1, 2, 1);
+        g.twice(1, 2, 0);
+        g.mode(2);
+        g.write(0, 1);
+        g.come(0, 1, 0);
+        g.keep(1);
+        g.sites(4);
+        g.mode(1);
+        g.add(1, 3);
+        g.write(1, 2);
+        g.write(1, 2);
+        g.back(1);
+        Check.due("18: two wait", 2, () -> g.waiting(1, 2));
+        Check.due("18: mode of the letter", 0, () -> g.letter(1, 2, 1, 1));
+        Check.due("18: its first event", 0, () -> g.inLetter(1, 2, 1, 0));
+        Check.due("18: its second event", 1, () -> g.inLetter(1, 2, 1, 1));
+        Check.due("18: letters written", 4, () -> g.count(4));
+        Check.due("18: carried", 6, () -> g.count(5));
+        Check.due("18: not new", 1, () -> g.count(6));
+        Check.due("18: nothing new", 0, () -> g.come(1, 2, 1));
+        Check.due("18: but a table", 1, () -> g.table(2, 0, 0));
+        g.sites(3);
+        Check.due("2: not new, since sites()", 0, () -> g.count(6));
+        Check.due("2: table as at first", 0, () -> g.table(2, 0, 0));
+    }
+
+    private static void backToWhenAndBy() {
+        GossipTables g = new GossipTables();
+        g.add(0, 1);
+        send(g, 0, 1);
+        g.keep(0);
+        g.fall(1);
+        send(g, 0, 2);
+        send(g, 2, 1);
+        Check.due("18: came by 2", 2, () -> g.came(1, 0, 1));
+        g.back(0);
+        Check.due("18: when", 3, () -> g.came(1, 0, 0));
+        Check.due("18: by", 0, () -> g.came(1, 0, 1));
     }
 
     private static void cut() {

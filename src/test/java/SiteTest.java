@@ -15,6 +15,7 @@ public final class SiteTest {
         siteOverstatedAndLost();
         lostAndLetters();
         siteCommon();
+        manyEvents();
         unlike();
         would();
         Check.end();
@@ -236,6 +237,42 @@ public final class SiteTest {
         send(g, 1, 2);
         Check.due("26: 2 knows that all know it", 0, () -> g.site(2, 7));
         Check.due("26: all have it, told of 2", 1, () -> g.site(2, 6));
+        Check.due("38: none", -1, () -> g.only(0, 1, 0));
+        Check.due("26: whatever was asked ahead of it", 1, () -> g.site(0, 7));
+    }
+
+    /** Sets of events go on beyond the 64 bits of a long. */
+    private static void manyEvents() {
+        GossipTables g = new GossipTables();
+        for (int i = 0; i < 110; i++) {
+            g.add(i < 100 ? 0 : 1, i % 100);
+        }
+        g.save(0);
+        Check.due("22: log", 109, () -> g.log(1, 9));
+        Check.due("6: many", 100, () -> g.write(0, 1));
+        Check.due("7: many", 100, () -> g.come(0, 1, 0));
+        Check.due("26: has", 110, () -> g.site(1, 3));
+        Check.due("5: a late one", 110, () -> g.take(1, 99));
+        Check.due("5: the 65th", 111, () -> g.take(1, 64));
+        Check.due("5: the 64th", 112, () -> g.take(1, 63));
+        Check.due("26: elements", 107, () -> g.site(1, 1));
+        Check.due("20: next to it", 65, () -> g.view(1, 63, 0));
+        Check.due("27: only there", 3, () -> g.unlike(0, 1));
+        Check.due("38: last of these", 99, () -> g.only(0, 1, 2));
+        Check.due("38: the other way", 100, () -> g.only(1, 0, 0));
+        Check.due("37: front", 112, () -> g.front(1, 0));
+        Check.due("37: one", 1, () -> g.front(1, -1));
+        Check.due("15: many", 113, () -> g.join(2, 1));
+        Check.due("47: all have", 100, () -> g.count(10));
+        Check.due("26: all have, in the log", 100, () -> g.site(2, 7));
+        Check.due("28: would not be told", 0, () -> g.would(2, 0, 2));
+        Check.due("28: would be told", 13, () -> g.would(2, 0, 0));
+        Check.due("14: many", 113, () -> g.fall(2));
+        Check.due("43: many", 100, () -> g.falling(0, 0));
+        Check.due("26: nothing in its view", 0, () -> g.site(2, 1));
+        g.sites(3);
+        Check.due("2: nothing in its view", 0, () -> g.site(1, 1));
+        Check.due("2: has nothing", 0, () -> g.site(0, 3));
     }
 
     private static void unlike() {
@@ -271,6 +308,13 @@ public final class SiteTest {
         Check.due("28: nothing was written", 2, () -> g.count(4));
         g.cut(0, 2, true);
         Check.due("28: a cut link does not matter", 2, () -> g.would(0, 2, 0));
+        g.add(0, 3);
+        g.add(0, 4);
+        Check.due("28: two that it thinks it knows, two that it tells", 2, () -> g.would(0, 1, 2));
+        send(g, 0, 1);
+        Check.due("28: two of four are lacking", 2, () -> g.would(0, 1, 2));
+        g.join(0, 2);
+        Check.due("28: only what the first one has", 0, () -> g.would(0, 1, 2));
         Check.due("28: what 3", ARGUMENT, () -> g.would(0, 1, 3));
         Check.due("28: what -1", ARGUMENT, () -> g.would(0, 1, -1));
         Check.due("28: one site", INDEX, () -> g.would(0, 0, 3));

@@ -18,11 +18,6 @@ public final class AheadOfTimeTest {
         Check.end();
     }
 
-    private static void send(GossipTables g, int from, int to) {
-        g.write(from, to);
-        g.come(from, to, g.waiting(from, to) - 1);
-    }
-
     private static void dueGossip(String what, GossipTables g, int... due) {
         for (int i = 0; i < due.length; i++) {
             int w = i;
@@ -91,8 +86,8 @@ public final class AheadOfTimeTest {
         g.add(0, 1);
         g.save(0);
         g.add(0, 2);
-        send(g, 0, 1);
-        send(g, 1, 0);
+        Check.send(g, 0, 1);
+        Check.send(g, 1, 0);
         Check.due("43: has", 1, () -> g.falling(0, 0));
         Check.due("43: lost to it", 1, () -> g.falling(0, 1));
         Check.due("43: of its table", 0, () -> g.falling(0, 2));
@@ -112,8 +107,8 @@ public final class AheadOfTimeTest {
     private static void joining() {
         GossipTables g = new GossipTables();
         g.add(0, 1);
-        send(g, 0, 1);
-        send(g, 1, 0);
+        Check.send(g, 0, 1);
+        Check.send(g, 1, 0);
         g.add(0, 2);
         g.fall(1);
         // As 0 now: has both; row 1 is then right; nothing lost.
@@ -150,7 +145,7 @@ public final class AheadOfTimeTest {
         Check.due("45: most that it has", 3, () -> g.best(0));
         // Site 3 gets and saves nothing of what 0 lost: 0 fell, and only 1 has its event, known to 0.
         g.add(0, 1);
-        send(g, 0, 1);
+        Check.send(g, 0, 1);
         g.fall(0);
         Check.due("45: fewest lost ahead of most", 1, () -> g.best(0));
         Check.due("45: site", INDEX, () -> g.best(4));
@@ -177,7 +172,7 @@ public final class AheadOfTimeTest {
         dueFewest("two of three", g, 1, 10, 2);
         g.add(2, 1);
         dueFewest("three", g, 1, 12, 20, 1);
-        send(g, 0, 1);
+        Check.send(g, 0, 1);
         dueFewest("1 has two", g, 12, 20, 1);
         g.sites(2);
         g.add(1, 1);
@@ -207,7 +202,7 @@ public final class AheadOfTimeTest {
         GossipTables h = new GossipTables();
         h.sites(4);
         h.add(0, 1);
-        send(h, 0, 2);
+        Check.send(h, 0, 2);
         for (int a = 0; a < 2; a++) {
             for (int b = 2; b < 4; b++) {
                 h.cut(a, b, true);
@@ -250,13 +245,13 @@ public final class AheadOfTimeTest {
     private static void countOverstatedAndLost() {
         GossipTables g = new GossipTables();
         g.add(2, 1);
-        send(g, 2, 1);
+        Check.send(g, 2, 1);
         g.fall(2);
         // The table of 1 says in row 2 that site 2 knows its event.
         Check.due("47: overstated", 1, () -> g.count(7));
         Check.due("47: the first", 122, () -> g.count(8));
         Check.due("47: lost", 1, () -> g.count(9));
-        send(g, 1, 0);
+        Check.send(g, 1, 0);
         Check.due("47: two tables say so", 2, () -> g.count(7));
         Check.due("47: the first", 22, () -> g.count(8));
         g.fall(1);

@@ -33,11 +33,6 @@ public final class EventsAndLettersTest {
         return g;
     }
 
-    private static void send(GossipTables g, int from, int to) {
-        g.write(from, to);
-        g.come(from, to, g.waiting(from, to) - 1);
-    }
-
     private static void newObject() {
         GossipTables g = new GossipTables();
         int[] due = {3, 0, 0, 0, 0, 0, 0, 0, -1, 0, 0, 1, 0, 0, -1};
@@ -146,8 +141,8 @@ public final class EventsAndLettersTest {
         Check.due("6: letters written", 14, () -> g.count(4));
         Check.due("6: carried", 26, () -> g.count(5));
         GossipTables h = withEvents(1);
-        send(h, 0, 1);
-        send(h, 1, 0);
+        Check.send(h, 0, 1);
+        Check.send(h, 1, 0);
         Check.due("6: what is known is left out", 0, () -> h.write(0, 1));
         Check.due("6: but not to others", 1, () -> h.write(0, 2));
     }
@@ -156,7 +151,7 @@ public final class EventsAndLettersTest {
         GossipTables g = new GossipTables();
         g.add(0, 1);
         g.add(0, 2);
-        send(g, 0, 1);
+        Check.send(g, 0, 1);
         g.add(1, 3);
         g.take(1, 0);
         g.write(1, 2);
@@ -175,7 +170,7 @@ public final class EventsAndLettersTest {
     private static void comeWithRow() {
         GossipTables g = new GossipTables();
         g.add(0, 1);
-        send(g, 0, 1);
+        Check.send(g, 0, 1);
         g.add(1, 2);
         g.mode(1);
         g.write(1, 2);
@@ -187,8 +182,8 @@ public final class EventsAndLettersTest {
     private static void comeWithNothing() {
         GossipTables g = new GossipTables();
         g.add(0, 1);
-        send(g, 0, 1);
-        send(g, 1, 0);
+        Check.send(g, 0, 1);
+        Check.send(g, 1, 0);
         g.add(0, 2);
         g.mode(2);
         g.write(0, 1);
@@ -197,7 +192,7 @@ public final class EventsAndLettersTest {
         Check.due("7: letters have what was there as they were written", 1, () -> g.come(0, 1, 0));
         dueTable("7: mode 2", g, 1, new int[][] {{2, 0, 0}, {2, 0, 0}, {0, 0, 0}});
         g.mode(2);
-        send(g, 0, 2);
+        Check.send(g, 0, 2);
         dueTable("7: mode 2, a third site", g, 2, new int[][] {{3, 0, 0}, {0, 0, 0}, {3, 0, 0}});
     }
 
@@ -216,10 +211,10 @@ public final class EventsAndLettersTest {
         g.sites(2);
         g.add(0, 1);
         Check.due("7: in its log", 1, () -> g.site(0, 2));
-        send(g, 0, 1);
+        Check.send(g, 0, 1);
         Check.due("7: known to both: not in the log", 0, () -> g.site(1, 2));
         Check.due("7: the sender does not know that", 1, () -> g.site(0, 2));
-        send(g, 1, 0);
+        Check.send(g, 1, 0);
         Check.due("7: it does then", 0, () -> g.site(0, 2));
         g.add(0, 2);
         g.add(0, 3);
@@ -327,7 +322,7 @@ public final class EventsAndLettersTest {
         GossipTables g = new GossipTables();
         g.add(1, 4);
         g.add(0, 5);
-        send(g, 0, 1);
+        Check.send(g, 0, 1);
         g.take(1, 0);
         g.write(1, 2);
         Check.due("12: as the log is", 0, () -> g.inLetter(1, 2, 0, 0));

@@ -21,16 +21,11 @@ public final class SavedTest {
         Check.end();
     }
 
-    private static void send(GossipTables g, int from, int to) {
-        g.write(from, to);
-        g.come(from, to, g.waiting(from, to) - 1);
-    }
-
     private static void save() {
         GossipTables g = new GossipTables();
         g.add(0, 1);
         g.add(1, 2);
-        send(g, 0, 1);
+        Check.send(g, 0, 1);
         Check.due("13: has", 2, () -> g.save(1));
         Check.due("13: has none", 0, () -> g.save(2));
         Check.due("13: site", INDEX, () -> g.save(3));
@@ -47,7 +42,7 @@ public final class SavedTest {
         g.add(1, 5);
         g.add(0, 2);
         g.save(0);
-        send(g, 1, 0);
+        Check.send(g, 1, 0);
         g.add(0, 3);
         Check.due("14: had", 2, () -> g.fall(0));
         Check.due("14: clock stays", 4, () -> g.site(0, 0));
@@ -65,7 +60,7 @@ public final class SavedTest {
         Check.due("14: table as at first", 0, () -> g.table(1, 1, 1));
         Check.due("14: site", INDEX, () -> g.fall(3));
         Check.due("14: event comes back to its site", 1, () -> {
-            send(g, 0, 1);
+            Check.send(g, 0, 1);
             return g.site(1, 0);
         });
         GossipTables h = new GossipTables();
@@ -79,17 +74,17 @@ public final class SavedTest {
     private static void fallKeepsWhenAndBy() {
         GossipTables g = new GossipTables();
         g.add(0, 1);
-        send(g, 0, 1);
+        Check.send(g, 0, 1);
         g.save(1);
         g.join(1, 2);
-        send(g, 0, 1);
+        Check.send(g, 0, 1);
         Check.due("14: came later", 7, () -> g.came(1, 0, 0));
         g.fall(1);
         Check.due("14: when, as saved", 3, () -> g.came(1, 0, 0));
         Check.due("14: by, as saved", 0, () -> g.came(1, 0, 1));
         g.join(1, 2);
-        send(g, 0, 2);
-        send(g, 2, 1);
+        Check.send(g, 0, 2);
+        Check.send(g, 2, 1);
         Check.due("14: came by another one", 2, () -> g.came(1, 0, 1));
         g.fall(1);
         Check.due("14: by, as saved", 0, () -> g.came(1, 0, 1));
@@ -101,7 +96,7 @@ public final class SavedTest {
         g.add(1, 2);
         g.add(1, 3);
         g.take(1, 1);
-        send(g, 2, 1);
+        Check.send(g, 2, 1);
         Check.due("15: has", 3, () -> g.join(0, 1));
         Check.due("15: lost its own", false, () -> g.has(0, 0));
         Check.due("15: view", 2, () -> g.view(0, 0, 0));
@@ -127,7 +122,7 @@ public final class SavedTest {
     private static void joinTakesAway() {
         GossipTables g = new GossipTables();
         g.add(0, 1);
-        send(g, 0, 1);
+        Check.send(g, 0, 1);
         g.add(0, 2);
         g.add(1, 3);
         Check.due("15: has those of the other one", 2, () -> g.join(0, 1));
@@ -290,7 +285,7 @@ public final class SavedTest {
         g.sites(5);
         g.add(4, 44);
         g.add(3, 33);
-        send(g, 4, 3);
+        Check.send(g, 4, 3);
         g.take(3, 0);
         g.keep(0);
         int[][] due = new int[3][9];
@@ -316,14 +311,14 @@ public final class SavedTest {
         g.join(0, 3);
         g.join(1, 3);
         g.join(2, 3);
-        send(g, 3, 4);
+        Check.send(g, 3, 4);
         Check.due("18: step of its coming", 8, () -> g.slowest(0));
     }
 
     private static void backToLetters() {
         GossipTables g = new GossipTables();
         g.add(0, 1);
-        send(g, 0, 1);
+        Check.send(g, 0, 1);
         g.add(1, 2);
         g.write(1, 2);
         g.mode(1);
@@ -357,11 +352,11 @@ public final class SavedTest {
     private static void backToWhenAndBy() {
         GossipTables g = new GossipTables();
         g.add(0, 1);
-        send(g, 0, 1);
+        Check.send(g, 0, 1);
         g.keep(0);
         g.fall(1);
-        send(g, 0, 2);
-        send(g, 2, 1);
+        Check.send(g, 0, 2);
+        Check.send(g, 2, 1);
         Check.due("18: came by 2", 2, () -> g.came(1, 0, 1));
         g.back(0);
         Check.due("18: when", 3, () -> g.came(1, 0, 0));

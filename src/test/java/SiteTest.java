@@ -21,17 +21,12 @@ public final class SiteTest {
         Check.end();
     }
 
-    private static void send(GossipTables g, int from, int to) {
-        g.write(from, to);
-        g.come(from, to, g.waiting(from, to) - 1);
-    }
-
     private static void view() {
         GossipTables g = new GossipTables();
         g.add(1, 40);
         g.add(0, 41);
         g.add(0, 42);
-        send(g, 1, 0);
+        Check.send(g, 1, 0);
         int[] names = {40, 41, 42};
         for (int k = 0; k < 3; k++) {
             int i = k;
@@ -79,7 +74,7 @@ public final class SiteTest {
         GossipTables g = new GossipTables();
         g.add(1, 1);
         g.add(0, 2);
-        send(g, 1, 0);
+        Check.send(g, 1, 0);
         Check.due("22: own one first", 1, () -> g.log(0, 0));
         Check.due("22: as they came", 0, () -> g.log(0, 1));
         Check.due("22: k 2", ELEMENT, () -> g.log(0, 2));
@@ -92,7 +87,7 @@ public final class SiteTest {
         GossipTables g = new GossipTables();
         g.add(1, 1);
         g.add(1, 1);
-        send(g, 1, 2);
+        Check.send(g, 1, 2);
         Check.due("23: own", 2, () -> g.table(1, 1, 1));
         Check.due("23: writing tells the writer nothing", 0, () -> g.table(1, 2, 1));
         Check.due("23: of the sender", 2, () -> g.table(2, 1, 1));
@@ -143,7 +138,7 @@ public final class SiteTest {
         g.add(0, 1);
         g.add(0, 2);
         g.take(0, 0);
-        send(g, 0, 1);
+        Check.send(g, 0, 1);
         int[] first = {3, 1, 3, 3, 0, 0, 0, 0};
         int[] second = {0, 1, 3, 3, 0, 0, 0, 0};
         int[] third = {0, 0, 0, 0, 0, 0, 0, 0};
@@ -161,9 +156,9 @@ public final class SiteTest {
     private static void siteOverstatedAndLost() {
         GossipTables g = new GossipTables();
         g.add(0, 1);
-        send(g, 0, 1);
-        send(g, 1, 0);
-        send(g, 0, 2);
+        Check.send(g, 0, 1);
+        Check.send(g, 1, 0);
+        Check.send(g, 0, 2);
         g.fall(1);
         // Rows 1 of the tables of 0 and of 2 say that site 1 knows event 0, but it has it not.
         Check.due("26: overstated, 0", 1, () -> g.site(0, 4));
@@ -202,7 +197,7 @@ public final class SiteTest {
         h.write(0, 1);
         h.add(0, 2);
         h.mode(2);
-        send(h, 0, 2);
+        Check.send(h, 0, 2);
         h.fall(0);
         h.join(1, 2);
         h.fall(1);
@@ -229,12 +224,12 @@ public final class SiteTest {
     private static void siteCommon() {
         GossipTables g = new GossipTables();
         g.add(0, 1);
-        send(g, 0, 1);
-        send(g, 0, 2);
+        Check.send(g, 0, 1);
+        Check.send(g, 0, 2);
         Check.due("26: all have it", 1, () -> g.site(0, 6));
         Check.due("26: it is in its log", 1, () -> g.site(0, 7));
         Check.due("26: in that of 1, too", 1, () -> g.site(1, 7));
-        send(g, 1, 2);
+        Check.send(g, 1, 2);
         Check.due("26: 2 knows that all know it", 0, () -> g.site(2, 7));
         Check.due("26: all have it, told of 2", 1, () -> g.site(2, 6));
         Check.due("38: none", -1, () -> g.only(0, 1, 0));
@@ -282,7 +277,7 @@ public final class SiteTest {
         g.add(1, 1);
         Check.due("27: two", 2, () -> g.unlike(0, 1));
         Check.due("27: one", 1, () -> g.unlike(1, 0));
-        send(g, 0, 1);
+        Check.send(g, 0, 1);
         Check.due("27: none", 0, () -> g.unlike(0, 1));
         g.take(1, 0);
         Check.due("27: what the other one took away", 1, () -> g.unlike(0, 1));
@@ -300,7 +295,7 @@ public final class SiteTest {
         Check.due("28: though the other one has both", 2, () -> g.would(0, 1, 0));
         Check.due("28: has both", 2, () -> g.would(0, 1, 1));
         Check.due("28: none is left out", 0, () -> g.would(0, 1, 2));
-        send(g, 1, 0);
+        Check.send(g, 1, 0);
         Check.due("28: it knows then", 0, () -> g.would(0, 1, 0));
         g.fall(1);
         Check.due("28: it thinks so", 0, () -> g.would(0, 1, 0));
@@ -311,7 +306,7 @@ public final class SiteTest {
         g.add(0, 3);
         g.add(0, 4);
         Check.due("28: two that it thinks it knows, two that it tells", 2, () -> g.would(0, 1, 2));
-        send(g, 0, 1);
+        Check.send(g, 0, 1);
         Check.due("28: two of four are lacking", 2, () -> g.would(0, 1, 2));
         g.join(0, 2);
         Check.due("28: only what the first one has", 0, () -> g.would(0, 1, 2));

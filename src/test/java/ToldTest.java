@@ -24,17 +24,12 @@ public final class ToldTest {
         Check.end();
     }
 
-    private static void send(GossipTables g, int from, int to) {
-        g.write(from, to);
-        g.come(from, to, g.waiting(from, to) - 1);
-    }
-
     /** 0 at site 0; 1 at site 1; 0 comes to 1; 2 at site 1 takes 0 away; 3 at site 2; 4 at site 0. */
     private static GossipTables diamond() {
         GossipTables g = new GossipTables();
         g.add(0, 50);
         g.add(1, 51);
-        send(g, 0, 1);
+        Check.send(g, 0, 1);
         g.take(1, 0);
         g.add(2, 53);
         g.add(0, 54);
@@ -72,7 +67,7 @@ public final class ToldTest {
         Check.due("30: event", INDEX, () -> g.ahead(5, 0));
         Check.due("30: event", INDEX, () -> g.ahead(0, -1));
         Check.due("30: what comes later does not matter", false, () -> {
-            send(g, 1, 2);
+            Check.send(g, 1, 2);
             return g.ahead(0, 3);
         });
     }
@@ -80,15 +75,15 @@ public final class ToldTest {
     private static void aheadIsNotHandedOn() {
         GossipTables g = new GossipTables();
         g.add(0, 1);
-        send(g, 0, 1);
+        Check.send(g, 0, 1);
         g.add(1, 2);
         // Site 1 thinks that site 2 knows events 0 and 1, but it fell.
-        send(g, 1, 2);
-        send(g, 2, 1);
+        Check.send(g, 1, 2);
+        Check.send(g, 2, 1);
         g.fall(2);
         g.mode(2);
         g.add(1, 3);
-        send(g, 1, 2);
+        Check.send(g, 1, 2);
         g.add(2, 4);
         Check.due("30: 1 ahead of 2", true, () -> g.ahead(1, 2));
         Check.due("30: 2 ahead of 3", true, () -> g.ahead(2, 3));
@@ -125,9 +120,9 @@ public final class ToldTest {
         Check.due("32: what -1, has it not", ARGUMENT, () -> g.came(2, 0, -1));
         Check.due("32: event", INDEX, () -> g.came(0, 5, 2));
         Check.due("32: site", INDEX, () -> g.came(3, 0, 0));
-        send(g, 1, 2);
+        Check.send(g, 1, 2);
         Check.due("32: by whose letter it was", 1, () -> g.came(2, 0, 1));
-        send(g, 0, 1);
+        Check.send(g, 0, 1);
         Check.due("32: what it had already came when it came", 4, () -> g.came(1, 0, 0));
     }
 
@@ -135,8 +130,8 @@ public final class ToldTest {
         GossipTables g = new GossipTables();
         g.sites(4);
         g.add(3, 1);
-        send(g, 3, 1);
-        send(g, 1, 0);
+        Check.send(g, 3, 1);
+        Check.send(g, 1, 0);
         int[] due = {0, 1, 3};
         Check.due("33: how many", 3, () -> g.way(0, 0, -1));
         for (int k = 0; k < 3; k++) {
@@ -159,7 +154,7 @@ public final class ToldTest {
     private static void wayGoesRound() {
         GossipTables g = new GossipTables();
         g.add(0, 1);
-        send(g, 0, 1);
+        Check.send(g, 0, 1);
         g.fall(0);
         g.join(0, 1);
         int[] due = {0, 1, 0};
@@ -178,11 +173,11 @@ public final class ToldTest {
         g.add(0, 1);
         g.add(1, 2);
         Check.due("34: none that all have", -1, () -> g.slowest(1));
-        send(g, 1, 0);
+        Check.send(g, 1, 0);
         Check.due("34: from 2 to 4", 2, () -> g.slowest(0));
         Check.due("34: that one", 1, () -> g.slowest(1));
         g.add(0, 3);
-        send(g, 0, 1);
+        Check.send(g, 0, 1);
         Check.due("34: from 1 to 7", 6, () -> g.slowest(0));
         Check.due("34: the first", 0, () -> g.slowest(1));
         g.fall(0);
@@ -211,9 +206,9 @@ public final class ToldTest {
         g.add(0, 2);
         g.add(0, 3);
         g.add(2, 4);
-        send(g, 1, 2);
+        Check.send(g, 1, 2);
         g.add(2, 5);
-        send(g, 0, 2);
+        Check.send(g, 0, 2);
         g.add(2, 6);
         // Ahead of 4: 0 and 3; ahead of 5: all; rows of three: 0 4 5, 1 2 5, 3 4 5.
         int[] due = {0, 4, 5};
@@ -234,7 +229,7 @@ public final class ToldTest {
         g.add(0, 2);
         g.add(1, 3);
         g.add(0, 4);
-        send(g, 0, 1);
+        Check.send(g, 0, 1);
         g.add(1, 5);
         Check.due("36: 1 and 3", 2, () -> g.between(0, 4));
         Check.due("36: none", 0, () -> g.between(3, 4));
@@ -249,7 +244,7 @@ public final class ToldTest {
         GossipTables g = diamond();
         Check.due("37: of 1", 1, () -> g.front(1, -1));
         Check.due("37: of 1, first", 2, () -> g.front(1, 0));
-        send(g, 0, 1);
+        Check.send(g, 0, 1);
         Check.due("37: then", 2, () -> g.front(1, -1));
         Check.due("37: second", 4, () -> g.front(1, 1));
         Check.due("37: none such", -1, () -> g.front(1, 2));
@@ -265,7 +260,7 @@ public final class ToldTest {
         g.add(0, 1);
         g.add(0, 2);
         g.add(1, 3);
-        send(g, 0, 1);
+        Check.send(g, 0, 1);
         g.add(0, 4);
         g.take(1, 0);
         Check.due("38: first", 0, () -> g.only(0, 1, 0));
@@ -280,7 +275,7 @@ public final class ToldTest {
     private static void sure() {
         GossipTables g = new GossipTables();
         g.add(0, 1);
-        send(g, 0, 1);
+        Check.send(g, 0, 1);
         g.add(1, 2);
         Check.due("39: 0", 2, () -> g.sure(1, 0));
         Check.due("39: itself counts", 2, () -> g.sure(1, 1));

@@ -33,8 +33,10 @@ final class Check {
         due(what, true, () -> holds);
     }
 
-    static int wrong() {
-        return wrong;
+    /** A letter is written, and comes at once. */
+    static void send(GossipTables g, int from, int to) {
+        g.write(from, to);
+        g.come(from, to, g.waiting(from, to) - 1);
     }
 
     static void end() {

@@ -94,7 +94,7 @@ public final class ModelTest {
     }
 
     private int number(String name, int i, int wild) {
-        int events = real.count(2);
+        int events = model.eventsNow();
         if (random.nextInt(100) < wild) {
             int[] odd = {-2, -1, sites, 120, 100, 5, 61, Integer.MAX_VALUE, Integer.MIN_VALUE, events};
             return odd[random.nextInt(odd.length)];
@@ -130,7 +130,7 @@ public final class ModelTest {
         Object got = answer(m, real, arguments);
         Object due = answer(PlainModel.class.getMethod(m.getName(), m.getParameterTypes()), model, arguments);
         told.add(m.getName() + Arrays.toString(arguments) + " = " + got + (got.equals(due) ? "" : ", due is " + due));
-        sites = real.count(0);
+        sites = model.sitesNow();
         return got.equals(due);
     }
 

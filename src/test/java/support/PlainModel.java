@@ -1,5 +1,4 @@
 import java.util.ArrayList;
-import java.util.Arrays;
 import java.util.Comparator;
 import java.util.HashSet;
 import java.util.List;
@@ -871,9 +870,11 @@ public final class PlainModel {
         return answers[what];
     }
 
-    /** For a message when answers differ. */
-    @Override
-    public String toString() {
-        return s.n + " sites, mode " + s.mode + ", clocks " + Arrays.toString(s.clock);
+    int sitesNow() {
+        return s.n;
+    }
+
+    int eventsNow() {
+        return s.events.size();
     }
 }

@@ -134,6 +134,10 @@ public final class BoundaryAheadTest {
         Boundary.promise(46, FEWEST, row(Lines.of("sites 4", "add 0 7", "add 1 7", "add 2 7", "add 3 7"), 1, 12, 23, 30, 1, 2).all());
         Boundary.promise(46, FEWEST, row(Lines.of("sites 4", "30 x add 0 7", "30 x add 1 7", "30 x add 2 7", "30 x add 3 7"),
             1, 12, 23, 30, 1, 2).all());
+        // Asked again and again, as it is then.
+        Boundary.promise(46, FEWEST, "add 2 7", "fewest -1 = 2", "fewest 0 = 20", "send 2 0", "fewest -1 = 1", "fewest 0 = 1",
+            "join 1 0", "fewest -1 = 0", "fewest 0 = -1", "add 0 7", "fewest -1 = 2", "fewest 1 = 2", "fall 0", "fewest -1 = 1",
+            "fewest 0 = 10", "fall 1", "fall 2", "fewest -1 = 0");
         Boundary.promise(46, FEWEST, Lines.of("sites 5", "fewest -1 = -1").each("fewest #", "-1", "0", "1", "-2", "MIN", "MAX")
             .and("add 0 7", "fewest -1 = -1", "fewest 0 = -1", "sites 4", "fewest -1 = 0").all());
     }

@@ -83,6 +83,10 @@ public final class BoundaryLettersTest {
     private static void take() {
         Boundary.promise(5, "An OUT at a SITE: the EVENT's number.", "add 0 7", "take 0 0 = 1", "event 1 2 = 1", "site 0 1 = 0",
             "117 x add 0 7", "take 0 118 = 119", "event 119 3 = 118", "site 0 1 = 116", "site 0 0 = 120");
+        // Around the 64th and the 65th element.
+        Boundary.promise(5, "An OUT at a SITE: the EVENT's number.", "70 x add 0 7", "take 0 64 = 70", "view 0 0 0 = 0",
+            "view 0 63 0 = 63", "view 0 64 0 = 65", "site 0 1 = 69", "take 0 63 = 71", "view 0 62 0 = 62", "view 0 63 0 = 65",
+            "take 0 65 = 72", "take 0 0 = 73", "view 0 0 0 = 1", "site 0 1 = 66");
         Boundary.promise(5, "IndexOutOfBoundsException;", "add 0 7", "take 3 0 = Index", "take -1 0 = Index",
             "take MIN 0 = Index", "take MAX 0 = Index", "take 3 9 = Index", "take 0 0 = 1");
         Boundary.promise(5, "NoSuchElementException: the ELEMENT is not in its VIEW;", "take 0 0 = Element", "2 x add 0 7",
@@ -117,6 +121,9 @@ public final class BoundaryLettersTest {
         Boundary.promise(7, sentence, risingLetters().and("come 0 1 12 = Element", "come 0 1 0 = 0", "come 0 1 11 = Element",
             "letter 0 1 0 0 = 1", "come 0 1 10 = 11", "waiting 0 1 = 10", "letter 0 1 9 0 = 10", "come 0 1 4 = 0",
             "letter 0 1 3 0 = 4", "letter 0 1 4 0 = 6", "count 6 = 5").all());
+        // Those that stay are as they were, though another one is written since.
+        Boundary.promise(7, sentence, risingLetters().and("come 0 1 0 = 0", "come 0 1 0 = 1", "write 0 1 = 12", "write 0 1 = 12",
+            "letter 0 1 9 0 = 11", "letter 0 1 0 0 = 2", "letter 0 1 11 0 = 12", "come 0 1 9 = 10", "letter 0 1 8 0 = 10").all());
         Boundary.promise(7, sentence, "120 x add 0 7", "write 0 1", "come 0 1 0 = 120", "waiting 0 1 = 0", "come 0 1 0 = Element",
             "site 1 3 = 120", "site 1 1 = 120", "write 0 1", "come 0 1 0 = 0", "count 6 = 120");
         Boundary.promise(7, "IndexOutOfBoundsException; NoSuchElementException; IllegalStateException: the LINK is CUT.",
@@ -134,6 +141,9 @@ public final class BoundaryLettersTest {
             "lose 0 1 11 = Element", "lose 0 1 0 = 10", "letter 0 1 0 0 = 1", "lose 0 1 4 = 9", "letter 0 1 3 0 = 4",
             "letter 0 1 4 0 = 6", "7 x lose 0 1 1", "waiting 0 1 = 2", "letter 0 1 1 0 = 10", "lose 0 1 1 = 1", "lose 0 1 0 = 0",
             "lose 0 1 0 = Element", "site 1 3 = 0", "count 6 = 0", "count 4 = 12").all());
+        Boundary.promise(8, sentence, "write 0 1 = 0", "add 0 7", "write 0 1 = 1", "lose 0 1 0 = 1", "add 0 7", "write 0 1 = 2",
+            "letter 0 1 0 0 = 1", "letter 0 1 1 0 = 2", "lose 0 1 1 = 1", "add 0 7", "write 0 1 = 3", "letter 0 1 0 0 = 1",
+            "come 0 1 1 = 3", "letter 0 1 0 2 = 1");
         Boundary.promise(8, "Likewise.", noCouples("lose # 0", "write 0 1", "write 1 0"));
         Boundary.promise(8, "Likewise.", "lose 0 1 0 = Element", "write 0 1", "lose 0 1 1 = Element", "lose 0 1 -1 = Element",
             "lose 0 1 MIN = Element", "lose 0 1 MAX = Element", "lose 1 0 0 = Element", "lose 0 2 0 = Element", "cut 0 1 true",
@@ -147,6 +157,9 @@ public final class BoundaryLettersTest {
             "letter 0 1 0 0 = 0", "count 4 = 2", "count 5 = 1", "come 0 1 3 = 1", "come 0 1 1 = 0", "waiting 0 1 = 2");
         Boundary.promise(9, sentence, "120 x add 0 7", "write 0 1", "twice 0 1 0 = 2", "letter 0 1 1 0 = 120",
             "inLetter 0 1 1 119 = 119", "lose 0 1 0 = 1", "letter 0 1 0 0 = 120", "inLetter 0 1 0 119 = 119", "come 0 1 0 = 120");
+        // The other one is from the same site to the same one, with the same table.
+        Boundary.promise(9, sentence, "sites 5", "add 4 7", "write 4 3", "twice 4 3 0 = 2", "lose 4 3 0 = 1", "come 4 3 0 = 1",
+            "came 3 0 1 = 4", "table 3 4 4 = 1", "table 3 3 4 = 1", "table 3 0 4 = 0", "log 3 0 = 0", "view 3 0 0 = 0");
         Boundary.promise(9, "Likewise;", noCouples("twice # 0", "write 0 1", "write 1 0"));
         Boundary.promise(9, "Likewise;", "twice 0 1 0 = Element", "write 0 1", "twice 0 1 1 = Element", "twice 0 1 -1 = Element",
             "twice 0 1 MIN = Element", "twice 0 1 MAX = Element", "twice 1 0 0 = Element", "twice 0 2 0 = Element",

@@ -232,9 +232,12 @@ public final class BoundarySavedTest {
             "cut 0 1 true"};
         String[] large = {"sites 5", "60 x add 4 99", "4 x write 4 3", "come 4 3 1", "60 x add 3 5", "save 3", "send 3 2", "fall 4",
             "join 1 3", "cut 0 4 true", "cut 2 3 true"};
+        // All have all that came, by times, steps and heights that the others have not.
+        String[] mixed = {"sites 4", "save 0", "save 1", "add 2 5", "add 0 6", "send 2 0", "send 0 1", "add 1 8", "send 1 3",
+            "take 3 0", "join 0 3", "join 2 3", "join 1 3", "write 3 2"};
         String[] none = {"mode 1", "sites 3"};
-        for (String[] kept : new String[][] {small, large, none}) {
-            for (String[] since : new String[][] {small, large, none, {"fall 1", "save 0"}, {"chance 8 60"}}) {
+        for (String[] kept : new String[][] {small, large, mixed, none}) {
+            for (String[] since : new String[][] {small, large, mixed, none, {"fall 1", "save 0"}, {"chance 8 60"}}) {
                 Lines there = Lines.of(kept).and("keep 1").and(since).and("back 1");
                 Boundary.alikeButTrace(18, sentence, there, Lines.of(kept).and("keep 1"));
                 Boundary.alike(18, sentence, there, Lines.of(kept).and("keep 1", "back 1"));
@@ -242,6 +245,10 @@ public final class BoundarySavedTest {
         }
         Boundary.promise(18, sentence, "keep 0 = 0", "120 x add 0 7", "back 0 = 0", "count 2 = 0", "keep 1 = 0", "add 2 7 = 0",
             "keep 0 = 1", "back 1 = 0", "back 0 = 1", "back 0 = 1", "event 0 0 = 2");
+        // What each event was, though others had its number since; a letter goes on from the site that wrote it.
+        Boundary.promise(18, sentence, Lines.of(mixed).and("write 3 0", "keep 0 = 4", "sites 5", "9 x add 4 7", "write 3 0", "back 0 = 4",
+            "event 2 1 = 1", "event 3 7 = 3", "ahead 2 3 = true", "ahead 0 1 = false", "event 1 8 = 1", "slowest 0 = 10",
+            "slowest 1 = 1", "fall 0", "come 3 0 0 = 2", "came 0 3 1 = 3", "table 0 3 2 = 1").all());
         String refused = "NoSuchElementException: none was kept; ahead of that IllegalArgumentException.";
         Boundary.promise(18, refused, "add 0 7", "back 0 = Element", "back 1 = Element", "back 2 = Argument", "back -1 = Argument",
             "back MIN = Argument", "back MAX = Argument", "keep 1 = 1", "add 0 7", "back 0 = Element", "back 2 = Argument",

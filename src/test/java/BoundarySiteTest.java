@@ -123,6 +123,9 @@ public final class BoundarySiteTest {
         // That all but one have it is not enough.
         Boundary.promise(26, SITE, "sites 5", "add 0 7", "send 0 1", "send 0 2", "send 0 3", "site 0 6 = 0", "site 0 7 = 0",
             "send 0 4", "site 0 6 = 1", "site 4 6 = 1", "site 0 7 = 1", "site 4 7 = 1", "fall 2", "site 0 6 = 0", "site 2 6 = 0");
+        // Whatever was asked ahead of it.
+        Boundary.promise(26, SITE, "add 0 7", "join 1 0", "join 2 0", "only 0 1 0 = -1", "site 0 7 = 1", "add 0 7", "front 0 -1 = 1",
+            "site 0 7 = 1", "only 0 1 0 = 1", "site 1 7 = 1");
     }
 
     /** Each site's first event is lost to all; three rounds of letters tell all of all clocks. */

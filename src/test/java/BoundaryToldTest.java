@@ -113,6 +113,10 @@ public final class BoundaryToldTest {
         Boundary.promise(34, sentence, "sites 2", "add 0 7", "join 1 0", "slowest 0 = 1", "slowest 1 = 0", "add 0 7", "join 1 0",
             "slowest 0 = 1", "slowest 1 = 0", "add 0 7", "save 0", "join 1 0", "slowest 0 = 2", "slowest 1 = 2");
         Boundary.promise(34, sentence, "sites 2", "120 x add 0 7", "join 1 0", "slowest 0 = 120", "slowest 1 = 0");
+        // The last of five sites; then of two, whatever a third one had ahead of sites().
+        Boundary.promise(34, sentence, "sites 5", "add 0 7", "join 1 0", "join 2 0", "join 3 0", "slowest 0 = -1", "join 4 0",
+            "slowest 0 = 4", "slowest 1 = 0", "sites 2", "add 0 7", "join 1 0", "slowest 0 = 1", "sites 4", "add 3 7", "join 0 3",
+            "join 1 3", "join 2 3", "slowest 0 = 3");
         // As told now: what was saved has the step at which it came then.
         Boundary.promise(34, sentence, "sites 2", "add 0 7", "join 1 0", "save 1", "fall 0", "join 0 1", "slowest 0 = 4", "fall 1",
             "slowest 0 = 4", "save 0", "fall 0", "slowest 0 = 4");

@@ -957,8 +957,13 @@ public final class GossipTables {
         int mode;
         int size;
         final int[] list = new int[MOST_EVENTS];
-        final EventSet content = new EventSet();
+        final EventSet content;
         final int[] table = new int[CELLS];
+
+        /** The set comes from the maker, so that calls stay eight deep where a letter is made. */
+        Letter(EventSet content) {
+            this.content = content;
+        }
 
         void copyOf(Letter other) {
             from = other.from;
@@ -1007,7 +1012,7 @@ public final class GossipTables {
         Letter at(int k) {
             Letter one = slots[k];
             if (one == null) {
-                one = new Letter();
+                one = new Letter(new EventSet());
                 slots[k] = one;
             }
             return one;
@@ -1347,7 +1352,7 @@ public final class GossipTables {
     private static final class Paper {
         private final World world;
         private final Site[] sites = new Site[MOST_SITES];
-        private final Letter letter = new Letter();
+        private final Letter letter = new Letter(new EventSet());
         private final EventSet found = new EventSet();
         private final EventSet other = new EventSet();
         private final int[] missing = new int[CELLS];

@@ -16,6 +16,13 @@ import java.util.regex.Pattern;
 public final class LanguageTest {
     private static final Path SOURCE = Path.of("src/main/java/GossipTables.java");
     private static final Path DOCUMENT = Path.of("../shared/DOC.md");
+    /** Of the library that rule 4 lists what the class uses, and the exceptions of rule 6. */
+    private static final Set<String> LIBRARY = Set.of("Object.Object()",
+        "System.arraycopy(java.lang.Object,int,java.lang.Object,int,int)", "Math.max(int,int)", "Math.min(int,int)",
+        "Integer.bitCount(int)", "Long.bitCount(long)", "IllegalStateException.IllegalStateException(java.lang.String)",
+        "IllegalArgumentException.IllegalArgumentException(java.lang.String)",
+        "IndexOutOfBoundsException.IndexOutOfBoundsException(java.lang.String)",
+        "NoSuchElementException.NoSuchElementException(java.lang.String)");
 
     public static void main(String[] args) throws IOException {
         String source = withoutComments(Files.readString(SOURCE));
@@ -25,6 +32,7 @@ public final class LanguageTest {
         forbiddenWords(source);
         lengthOfMethods(source);
         exceptions(source);
+        calls(CallTree.of(SOURCE));
         Check.end();
     }
 
@@ -135,6 +143,20 @@ public final class LanguageTest {
             Check.that("rule 6: " + thrown.group(),
                 thrown.group(1).matches("new (IllegalState|IllegalArgument|IndexOutOfBounds|NoSuchElement)"
                     + "Exception\\(\"[^\"]*\"\\)"));
+        }
+    }
+
+    private static void calls(CallTree tree) {
+        Check.that("the calls of the whole class are found", tree.methods().size() > 47);
+        for (String method : tree.methods()) {
+            List<String> row = tree.longestFrom(method);
+            Check.that("rule 11: calls at most eight deep: " + row, row.size() <= 8);
+            if (tree.callsItself(method)) {
+                Check.that("rule 8: " + method + " calls itself", tree.isPrivateStatic(method));
+            }
+        }
+        for (String called : tree.library()) {
+            Check.that("rule 4: " + called, LIBRARY.contains(called));
         }
     }
 }

@@ -1,4 +1,5 @@
 import java.util.ArrayList;
+import java.util.BitSet;
 import java.util.Comparator;
 import java.util.HashSet;
 import java.util.List;
@@ -804,26 +805,25 @@ public final class PlainModel {
         if (s.n > 4) {
             return null;
         }
-        List<List<Set<Integer>>> states = new ArrayList<>();
+        List<List<BitSet>> states = new ArrayList<>();
         List<List<Integer>> rows = new ArrayList<>();
-        Set<List<Set<Integer>>> seen = new HashSet<>();
-        List<Set<Integer>> start = new ArrayList<>();
-        s.places.forEach(p -> start.add(new TreeSet<>(p.has.keySet())));
+        Set<List<BitSet>> seen = new HashSet<>();
+        List<BitSet> start = new ArrayList<>();
+        s.places.forEach(p -> start.add(bitsOf(p.has.keySet())));
         states.add(start);
         rows.add(List.of());
         seen.add(start);
         for (int i = 0; i < states.size(); i++) {
-            List<Set<Integer>> now = states.get(i);
+            List<BitSet> now = states.get(i);
             if (new HashSet<>(now).size() == 1) {
                 return rows.get(i);
             }
             for (int a = 0; a < s.n; a++) {
                 for (int b = 0; b < s.n; b++) {
                     if (a != b && !s.isCut(a, b)) {
-                        List<Set<Integer>> then = new ArrayList<>(now);
-                        Set<Integer> more = new TreeSet<>(now.get(b));
-                        more.addAll(now.get(a));
-                        then.set(b, more);
+                        List<BitSet> then = new ArrayList<>(now);
+                        then.set(b, (BitSet) now.get(b).clone());
+                        then.get(b).or(now.get(a));
                         if (seen.add(then)) {
                             List<Integer> row = new ArrayList<>(rows.get(i));
                             row.add(10 * a + b);
@@ -835,6 +835,12 @@ public final class PlainModel {
             }
         }
         return null;
+    }
+
+    private static BitSet bitsOf(Set<Integer> events) {
+        BitSet bits = new BitSet();
+        events.forEach(bits::set);
+        return bits;
     }
 
     public int fewest(int k) {

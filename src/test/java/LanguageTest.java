@@ -16,6 +16,7 @@ import java.util.regex.Pattern;
 public final class LanguageTest {
     private static final Path SOURCE = Path.of("src/main/java/GossipTables.java");
     private static final Path DOCUMENT = Path.of("../shared/DOC.md");
+    private static final Path README = Path.of("README.md");
     /** Of the library that rule 4 lists what the class uses, and the exceptions of rule 6. */
     private static final Set<String> LIBRARY = Set.of("Object.Object()",
         "System.arraycopy(java.lang.Object,int,java.lang.Object,int,int)", "Math.max(int,int)", "Math.min(int,int)",
@@ -33,6 +34,7 @@ public final class LanguageTest {
         lengthOfMethods(source);
         exceptions(source);
         calls(CallTree.of(SOURCE));
+        readme(Files.readString(README));
         Check.end();
     }
 
@@ -157,6 +159,15 @@ public final class LanguageTest {
         }
         for (String called : tree.library()) {
             Check.that("rule 4: " + called, LIBRARY.contains(called));
+        }
+    }
+
+    private static void readme(String text) {
+        String use = text.substring(text.indexOf("## Use"), text.indexOf("## Tests"));
+        for (Method m : GossipTables.class.getDeclaredMethods()) {
+            if (Modifier.isPublic(m.getModifiers())) {
+                Check.that("README.md says what " + m.getName() + " is for", use.contains("`" + m.getName() + "`"));
+            }
         }
     }
 }
